@@ -14,6 +14,7 @@ public final class ModelTest {
         for (int seed = 0; seed < 150 * times; seed++) end("clock", seed, clock(new Random(seed)));
         for (int seed = 0; seed < 120 * times; seed++) end("watch", seed, watch(new Random(1000 + seed)));
         for (int seed = 0; seed < 40 * times; seed++) end("rounds", seed, rounds(new Random(2000000 + seed)));
+        for (int seed = 0; seed < 60 * times; seed++) end("planned rounds", seed, plannedRounds(new Random(5000000 + seed)));
         for (int seed = 0; seed < 400 * times; seed++) end("faults", seed, faults(new Random(3000000 + seed)));
         for (int seed = 0; seed < 60 * times; seed++) end("bells", seed, bells(new Random(4000000 + seed)));
         System.out.println(bad == 0 ? "class and model are alike" : bad + " runs are unlike");
@@ -147,6 +148,35 @@ public final class ModelTest {
         p.rounds(h, -1);
         p.rounds(h, odd(r, 3));
         p.rounds(odd(r, 20), odd(r, 3));
+        return p;
+    }
+
+    /** Dials that some rounds put right for sure, so that plans of three rounds are found too. */
+    private static Pair plannedRounds(Random r) {
+        Pair p = new Pair();
+        p.branch(-1);
+        p.minutes(1 + r.nextInt(3000));
+        int[] lengths = new int[2 + r.nextInt(2)];
+        for (int i = 0; i < lengths.length; i++) lengths[i] = 1 + r.nextInt(30);
+        int many = 2 + r.nextInt(6);
+        int[] held = new int[3];
+        for (int d = 0; d < many; d++) {
+            p.dial(0, r.nextInt(3) == 0, 0, r.nextInt(2));
+            if (r.nextInt(3) == 0) p.worn(d, r.nextInt(5), r.nextInt(5));
+            int holds = r.nextInt(1 << lengths.length);
+            Model.D x = p.y.s.dials.get(d).copy();
+            int sign = p.y.s.sign;
+            for (int i = 0; i < lengths.length; i++) {
+                x.held = (holds >> i & 1) != 0;
+                held[i] += holds >> i & 1;
+                for (int k = 0; k < lengths[i]; k++, sign = 1 - sign) x.pulse(sign);
+            }
+            p.set(d, Math.floorMod(p.about(0) - x.hands, 720));
+        }
+        int h = Math.max(held[0], Math.max(held[1], held[2]));
+        for (int round = -1; round < 3; round++) p.rounds(h, round);
+        p.rounds(Math.max(0, h - 1), -1);
+        p.rounds(Math.max(0, h - 1), 0);
         return p;
     }
 
