@@ -35,7 +35,6 @@ public final class HallClock {
         if (!known || now.wires.size >= BRANCHES) {
             return NONE;
         }
-        righter.forget();
         return now.wires.grow(from);
     }
 

@@ -12,9 +12,10 @@ public final class ModelTest {
     public static void main(String[] args) {
         int times = args.length > 0 ? Integer.parseInt(args[0]) : 1;
         for (int seed = 0; seed < 150 * times; seed++) end("clock", seed, clock(new Random(seed)));
-        for (int seed = 0; seed < 120 * times; seed++) end("watch", seed, watch(new Random(1000 + seed)));
+        for (int seed = 0; seed < 120 * times; seed++) end("watch", seed, watch(new Random(1000 + seed), false));
+        for (int seed = 0; seed < 3 * times; seed++) end("full watch", seed, watch(new Random(6000000 + seed), true));
         for (int seed = 0; seed < 40 * times; seed++) end("rounds", seed, rounds(new Random(2000000 + seed)));
-        for (int seed = 0; seed < 60 * times; seed++) end("planned rounds", seed, plannedRounds(new Random(5000000 + seed)));
+        for (int seed = 0; seed < 60 * times; seed++) end("planned rounds", seed, plannedRounds(new Random(5000000 + seed), seed % 6 == 0));
         for (int seed = 0; seed < 400 * times; seed++) end("faults", seed, faults(new Random(3000000 + seed)));
         for (int seed = 0; seed < 60 * times; seed++) end("bells", seed, bells(new Random(4000000 + seed)));
         System.out.println(bad == 0 ? "class and model are alike" : bad + " runs are unlike");
@@ -64,16 +65,16 @@ public final class ModelTest {
         return p;
     }
 
-    private static Pair watch(Random r) {
+    private static Pair watch(Random r, boolean full) {
         Pair p = new Pair();
-        int branches = 1 + r.nextInt(4);
-        int dials = 1 + r.nextInt(4);
+        int branches = full ? 8 : 1 + r.nextInt(4);
+        int dials = full ? 16 : 1 + r.nextInt(4);
         wires(p, r, branches, dials);
         if (r.nextBoolean()) p.quick(1 + r.nextInt(9));
         if (r.nextInt(3) == 0) p.cut(r.nextInt(branches), true);
         if (r.nextInt(3) == 0) p.hold(r.nextInt(dials), true);
         boolean longOne = r.nextInt(12) == 0;
-        int n = longOne ? 7 + r.nextInt(4) : 1 + r.nextInt(6);
+        int n = full ? 10 : longOne ? 7 + r.nextInt(4) : 1 + r.nextInt(6);
         p.watch(n);
         if (r.nextBoolean()) p.hang(0, r.nextInt(branches));
         if (r.nextBoolean()) p.branch(-1);
@@ -152,13 +153,13 @@ public final class ModelTest {
     }
 
     /** Dials that some rounds put right for sure, so that plans of three rounds are found too. */
-    private static Pair plannedRounds(Random r) {
+    private static Pair plannedRounds(Random r, boolean full) {
         Pair p = new Pair();
         p.branch(-1);
         p.minutes(1 + r.nextInt(3000));
         int[] lengths = new int[2 + r.nextInt(2)];
         for (int i = 0; i < lengths.length; i++) lengths[i] = 1 + r.nextInt(30);
-        int many = 2 + r.nextInt(6);
+        int many = full ? 16 : 2 + r.nextInt(6);
         int[] held = new int[3];
         for (int d = 0; d < many; d++) {
             p.dial(0, r.nextInt(3) == 0, 0, r.nextInt(2));
@@ -173,16 +174,35 @@ public final class ModelTest {
             }
             p.set(d, Math.floorMod(p.about(0) - x.hands, 720));
         }
-        int h = Math.max(held[0], Math.max(held[1], held[2]));
+        int h = Math.min(15, Math.max(held[0], Math.max(held[1], held[2])));
         for (int round = -1; round < 3; round++) p.rounds(h, round);
         p.rounds(Math.max(0, h - 1), -1);
         p.rounds(Math.max(0, h - 1), 0);
+        change(p, r, many);
+        p.rounds(h, -1);
+        p.rounds(h, 0);
         return p;
+    }
+
+    /** One change of any kind, behind which a plan must be made anew. */
+    private static void change(Pair p, Random r, int many) {
+        int d = r.nextInt(many);
+        switch (r.nextInt(9)) {
+            case 0: p.minutes(1 + r.nextInt(3)); break;
+            case 1: p.quick(1 + r.nextInt(3)); break;
+            case 2: p.storm(0, r.nextInt(2)); break;
+            case 3: p.set(d, p.about(0) % 720); break;
+            case 4: p.worn(d, r.nextInt(5), r.nextInt(5)); break;
+            case 5: p.cut(0, true); break;
+            case 6: p.hang(d, p.branch(-1)); break;
+            case 7: p.dial(0, false, p.about(0) % 720, 0); break;
+            default: p.back();
+        }
     }
 
     private static final String[] TOKENS = {"ring", "rest", "when", "or", "and", "not", "minute", "hour", "clock", "day", "date",
         "<", "<=", ">", ">=", "=", "#", "+", "-", "*", "/", "%", "(", ")", ";", "0", "3", "4", "9999", "10000", "007", "99999999999",
-        "Ring", "mins", "!", "\t", "é", "\n", "&"};
+        "Ring", "mins", "a", "z", "A", "Z", "@", "[", "`", "{", ":", "!", "\t", "é", "\n", "&"};
 
     private static String blank(Random r) {
         return r.nextInt(9) == 0 ? "\n" : r.nextInt(6) == 0 ? "  " : " ";

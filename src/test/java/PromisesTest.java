@@ -413,6 +413,19 @@ public final class PromisesTest {
         due("the 31st", x.read(0, 0, 0), NONE);
         due("how many", x.about(7), 30);
         due("all as it should be", x.fewest(0), 0);
+        readOfAll();
+    }
+
+    private static void readOfAll() {
+        HallClock x = new HallClock();
+        for (int b = 0; b < 8; b++) x.branch(b - 1);
+        for (int d = 0; d < 16; d++) x.dial(d / 2, d % 2 == 0, 719, 1);
+        due("watch(10) of 16", x.watch(10), 16);
+        for (int d = 0; d < 16; d++) x.read(d, 10, d < 6 ? 9 : 7);
+        due("a break of branch 3 for ten dials", x.fewest(0), 1);
+        due("it may be at 5", x.broken(0, 3, 5), 1);
+        due("not ahead of it", x.broken(0, 2, 5), 0);
+        due("dial 6 tells most", x.question(0, 0), 6);
     }
 
     private static void fewest(int n) {
@@ -581,6 +594,7 @@ public final class PromisesTest {
         due("the third is 30", x.rounds(0, 2), 30);
         roundsWithHands();
         roundsOfTurned();
+        roundsAnew();
     }
 
     private static void roundsWithHands() {
@@ -607,6 +621,39 @@ public final class PromisesTest {
         due("nothing has moved", x.at(1, 0), 13);
         x.cut(0, true);
         due("none is reached", x.rounds(0, NONE), 0);
+    }
+
+    /** Behind each change a plan is another one. */
+    private static void roundsAnew() {
+        HallClock x = three();
+        x.stop(true);
+        x.minutes(9);
+        x.image();
+        due("9", x.rounds(15, 0), 9);
+        x.minutes(1);
+        due("10", x.rounds(15, 0), 10);
+        x.quick(2);
+        due("8", x.rounds(15, 0), 8);
+        x.storm(0, 0);
+        due("7 and one more", x.rounds(15, NONE), 2);
+        x.cut(0, true);
+        due("branch 2 alone", x.rounds(15, 0), 8);
+        x.set(2, 1);
+        due("9 again", x.rounds(15, 0), 9);
+        x.hang(0, 2);
+        due("another one comes to it", x.rounds(15, NONE), 2);
+        x.back();
+        due("as at the image", x.rounds(15, 0), 9);
+        x.worn(0, 0, 1);
+        x.worn(1, 0, 1);
+        x.worn(2, 0, 1);
+        due("by twos: never", x.rounds(15, NONE), NONE);
+        x.set(0, 1);
+        x.set(1, 1);
+        x.set(2, 1);
+        due("by twos", x.rounds(15, 0), 4);
+        x.dial(2, false, 6, 0);
+        due("one more dial", x.rounds(15, NONE), 2);
     }
 
     private static void roundsOfTurned() {
@@ -680,6 +727,8 @@ public final class PromisesTest {
         for (int i = 0; i < 12; i++) twelve.append("rest day=").append(i).append(";");
         good(twelve.toString());
         good("rest not not not not ((((1))))=1;");
+        good("rest " + "1+".repeat(145) + "1=1; ");
+        good("rest 1=1" + " or 1=1 and 1=2".repeat(19) + ";");
         good("rest --------1=1;");
         good("rest not -(-(-(-1)))=------(1) and not not not not not not not not 1=1;");
     }
@@ -740,6 +789,12 @@ public final class PromisesTest {
         faulty("rest minutes=1;", 1, 5);
         faulty("rest 1minute=1;", 1, 6);
         faulty("rest 1\t=1;", 1, 6);
+        for (char letter : new char[] {'a', 'z', 'A', 'Z'}) faulty("ring" + letter + " 0", 1, 0);
+        for (char none : new char[] {'@', '[', '`', '{', '_', ':', '/'}) faulty("ring" + none + " 0", 1, 4);
+        faulty("rest 1:=1;", 1, 6);
+        faulty(";".repeat(300), 1, 0);
+        faulty("rest " + "(".repeat(295), 3, 13);
+        faulty("rest " + "1+".repeat(147) + "1", 1, 300);
         faulty("rest not not not not not not not not not 1=1;", 3, 37);
         faulty("rest (((((((((1)))))))))=1;", 3, 13);
         faulty("rest ---------1=1;", 3, 13);
