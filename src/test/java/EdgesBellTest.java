@@ -8,6 +8,7 @@ public final class EdgesBellTest {
     public static void main(String[] args) {
         ringAndRest();
         noStripAtFirst();
+        ringsInAnyOrder();
         lateNow();
         lateNearTheBeginning();
         lateByADial();
@@ -67,6 +68,22 @@ public final class EdgesBellTest {
         due("often", x.often(0, 0), 1440);
         due("late", x.late(0, NONE), 0);
         due("lesson", x.lesson(0, 0), 1);
+    }
+
+    /** What was asked about one minute must not be left in the answer about another one. */
+    private static void ringsInAnyOrder() {
+        says("A BELL RINGS at a minute by THE STRIP");
+        HallClock x = Edge.ringing("ring 0 when hour%2=0;ring 1 when day=3 or day=5;ring 2 when date%2=0 and minute<30;ring 3 when clock>=720;");
+        int[] first = {3600, 3540, 3600, 59, 60, 119, 120, 1439, 1440, 2879, 2880, 10079, 10080, 0, 60, 0, 1440, 0, 575999, 0};
+        long other = 12345;
+        for (int i = 0; i < 110; i++) {
+            other = (other * 1103515245 + 12345) % 2147483648L;
+            int t = i < first.length ? first[i] : (int) (other % (i < 60 ? 4320 : 576000));
+            due("hour at " + t, x.rings(0, t), t / 60 % 2 == 0 ? 1 : 0);
+            due("day at " + t, x.rings(1, t), t / 1440 % 7 == 3 || t / 1440 % 7 == 5 ? 1 : 0);
+            due("date at " + t, x.rings(2, t), t / 1440 % 2 == 0 && t % 60 < 30 ? 1 : 0);
+            due("clock at " + t, x.rings(3, t), t % 1440 >= 720 ? 1 : 0);
+        }
     }
 
     private static void lateNow() {

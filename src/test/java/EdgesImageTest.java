@@ -13,6 +13,8 @@ public final class EdgesImageTest {
         watchOfTheImage();
         watchBehindTheImage();
         readBehindTheImage();
+        allOfTheWatchOfTheImage();
+        stripThatRangBehindTheImage();
         tapeIsNotOfIt();
         faultIsNotOfIt();
         stripsBehindItAreGone();
@@ -152,6 +154,63 @@ public final class EdgesImageTest {
         due("full", x.read(0, 1, 2), NONE);
         x.back();
         due("not full", x.read(0, 1, 2), 2);
+    }
+
+    private static void allOfTheWatchOfTheImage() {
+        says("all as it is (WATCH too)");
+        HallClock x = Edge.turned(0);
+        x.quick(1);
+        x.watch(3);
+        x.minutes(1440);
+        x.read(0, 2, 2);
+        x.minutes(1440);
+        x.read(0, 3, 3);
+        due("a miss of the second, known on day 1", x.fewest(1), 1);
+        due("known on day 2: it would do nothing at the third", x.fewest(2), NONE);
+        x.image();
+        x.quick(1);
+        x.branch(0);
+        x.dial(1, false, 7, 0);
+        x.watch(5);
+        x.read(1, 5, 12);
+        x.read(1, 4, 11);
+        x.back();
+        int[] about = {2880, 1, 0, 1, 1, 0, NONE, 2, 3, 0};
+        for (int what = 0; what < about.length; what++) due("about " + what, x.about(what), about[what]);
+        due("as known on day 0", x.fewest(0), 0);
+        due("as known on day 1", x.fewest(1), 1);
+        due("as known on day 2", x.fewest(2), NONE);
+        due("a branch of the other watch", x.broken(0, 1, 1), NONE);
+        due("a dial of the other watch", x.read(1, 0, 7), NONE);
+        due("a pulse of the other watch", x.read(0, 4, 0), NONE);
+        x = Edge.turned(0);
+        x.quick(1);
+        x.watch(3);
+        x.minutes(1440);
+        x.read(0, 1, 2);
+        x.read(0, 3, 4);
+        x.image();
+        x.quick(1);
+        x.watch(3);
+        x.read(0, 3, 1);
+        x.read(0, 2, 1);
+        x.back();
+        due("its sign, its pulses, its days: as known on day 0", x.fewest(0), 0);
+        due("its sign, its pulses, its days: as known on day 1", x.fewest(1), 0);
+    }
+
+    private static void stripThatRangBehindTheImage() {
+        says("STRIPS told behind it are gone behind going back");
+        HallClock x = new HallClock();
+        x.image();
+        ring(x, 1, 0);
+        x.by(0);
+        due("rings at 7", x.rings(1, 7), 1);
+        x.back();
+        ring(x, 2, 0);
+        x.by(0);
+        due("the new one at the same minute", x.rings(1, 7), 0);
+        due("the new one at the same minute", x.rings(2, 7), 1);
     }
 
     private static void tapeIsNotOfIt() {

@@ -21,6 +21,8 @@ public final class EdgesRoundsTest {
         signOfRounds();
         stoppedMaster();
         fullClock();
+        turnedHeldInAnEvenRound();
+        handsOfAllRoundsAtOnce();
         rounds();
         anewBehindChanges();
         Edge.close("the edges of putting right hold");
@@ -256,6 +258,37 @@ public final class EdgesRoundsTest {
         plan("no fewer with more hands", x, 15, 30, 30);
     }
 
+    private static void turnedHeldInAnEvenRound() {
+        says("ROUNDS of 1 to 30 QUICK PULSES each; in a ROUND up to H (0 .. 15) of the DIALS can be HELD");
+        HallClock x = new HallClock();
+        x.branch(NONE);
+        x.dial(0, true, 718, 0);
+        x.dial(0, false, 715, 1);
+        // Behind two pulses the sign is 0 again, and the one that was held does nothing at the first of three.
+        plan("2 and 5", x, 1, 2, 3);
+        x.quick(1);
+        due("the turned one did nothing", x.at(0, 2), 0);
+        plan("2 and 4, the turned one held in an odd round", x, 1, 1, 3);
+    }
+
+    private static void handsOfAllRoundsAtOnce() {
+        says("in a ROUND up to H (0 .. 15) of the DIALS can be HELD");
+        plan("3 is held in the third", behind(3, 4, 5, 6), 1, 1, 2, 3);
+        noPlan("of two that are 3 behind one would be held in the first and the second too", behind(3, 3, 4, 5, 6), 1);
+        plan("with two hands", behind(3, 3, 4, 5, 6), 2, 1, 2, 3);
+        plan("two of them", behind(3, 3, 6), 1, 3, 3);
+        noPlan("three of them", behind(3, 3, 3, 6), 1);
+        plan("three of them with two", behind(3, 3, 3, 6), 2, 3, 3);
+        plan("four of them with two", behind(3, 3, 3, 3, 6), 2, 3, 3);
+        noPlan("five of them with two", behind(3, 3, 3, 3, 3, 6), 2);
+        plan("each of three rounds holds one", behind(6, 6, 6, 9), 1, 3, 3, 3);
+        noPlan("not two", behind(6, 6, 6, 6, 9), 1);
+        plan("each of three rounds holds two", behind(6, 6, 6, 6, 6, 6, 9), 2, 3, 3, 3);
+        noPlan("not three", behind(6, 6, 6, 6, 6, 6, 6, 9), 2);
+        plan("each is held in two of three", behind(3, 3, 3, 9), 2, 3, 3, 3);
+        noPlan("with one hand", behind(3, 3, 3, 9), 1);
+    }
+
     private static void rounds() {
         says("FEWEST ROUNDS with H: how many (round NONE), QUICK PULSES of a ROUND (0 .. 2)");
         HallClock x = behind(61);
@@ -290,8 +323,12 @@ public final class EdgesRoundsTest {
         x.image();
         x.set(0, 712);
         plan("set", x, 2, 1, 8);
+        x.set(0, 711);
+        plan("set again", x, 2, 9);
         x.worn(1, 0, 1);
-        noPlan("worn: by twos never 9", x, 0);
+        noPlan("worn: by twos never 9", x, 2);
+        x.worn(1, 1, 1);
+        noPlan("worn: never", x, 2);
         x.back();
         plan("back", x, 2, 9);
         x.quick(1);

@@ -16,6 +16,9 @@ public final class EdgesStripTest {
         letters();
         digits();
         longestSign();
+        tokensCutByTheEnd();
+        tokensOfAFullTape();
+        stripBehindFaults();
         signsThatAreNone();
         numbersOfAStrip();
         bellsOfAStrip();
@@ -137,6 +140,50 @@ public final class EdgesStripTest {
         good("rest 1<-1;");
         good("rest 1=-1;");
         good("rest 1<(1);");
+    }
+
+    /** What a tape had behind its end is no part of its last token. */
+    private static void tokensCutByTheEnd() {
+        says("The tape has its first n bytes alone");
+        String[] texts = {"rest days", "rest 10000", "rest 1<=2", "restring", "rest 1=2;;"};
+        int[] ends = {8, 9, 7, 4, 9};
+        int[] places = {8, 9, 7, 4, NONE};
+        for (int i = 0; i < texts.length; i++) {
+            HallClock x = new HallClock();
+            Edge.type(x, texts[i]);
+            x.end(ends[i]);
+            due("strip of " + texts[i] + " up to " + ends[i], x.strip(), places[i] == NONE ? 0 : NONE);
+            due("fault", x.fault(0), places[i] == NONE ? 0 : 1);
+            due("place", x.fault(1), places[i]);
+        }
+    }
+
+    private static void tokensOfAFullTape() {
+        says("STRIPS 0 .. 3: texts of up to 300 bytes");
+        faulty(";".repeat(299), 1, 0);
+        faulty(";".repeat(300), 1, 0);
+        faulty(" ".repeat(299) + "!", 1, 299);
+        faulty(" ".repeat(296) + "rest", 1, 300);
+        faulty(" ".repeat(297) + "res", 1, 297);
+        faulty(" ".repeat(294) + "rest 1", 1, 300);
+        faulty(" ".repeat(293) + "rest 1<", 1, 300);
+        good(" ".repeat(300));
+        good("\n".repeat(300));
+    }
+
+    private static void stripBehindFaults() {
+        says("The tape (empty then) is a STRIP");
+        HallClock x = new HallClock();
+        for (int i = 0; i < 3; i++) {
+            Edge.type(x, "rest " + "1+".repeat(147) + "!");
+            due("a long text with a fault at its end", x.strip(), NONE);
+            due("place", x.fault(1), 299);
+        }
+        Edge.type(x, "ring 1 when " + "1+".repeat(135) + "minute=136+4;");
+        due("as long a one without", x.strip(), 0);
+        x.by(0);
+        due("rings at 5", x.rings(1, 5), 1);
+        due("not at 4", x.rings(1, 4), 0);
     }
 
     private static void signsThatAreNone() {

@@ -33,7 +33,11 @@ public final class EdgesWatchTest {
         questionOfLikeOnes();
         questionWithoutOwnMishaps();
         questionNone();
+        questionByTwoBreaks();
+        questionOfWorn();
+        questionOfTurned();
         watch();
+        watchAnew();
         read();
         fewest();
         broken();
@@ -558,6 +562,114 @@ public final class EdgesWatchTest {
         due("a miss, a break ahead, a break of its own: unlike hands", x.question(0, 2), 2);
         brokenRow("ahead", x, 0, 1);
         brokenRow("its own", x, 1, 1);
+    }
+
+    private static void asks(String what, HallClock x, int dial, int pulse, int unlike) {
+        due(what + ": dial", x.question(0, 0), dial);
+        due(what + ": pulse", x.question(0, 1), pulse);
+        due(what + ": unlike", x.question(0, 2), unlike);
+    }
+
+    private static void questionByTwoBreaks() {
+        says("at which such sets, without MISSES and JUMPS of that DIAL, would show most unlike HANDS");
+        HallClock x = six(4);
+        for (int d = 0; d < 2; d++) x.read(d, 4, 0);
+        for (int d = 4; d < 6; d++) x.read(d, 4, 3);
+        due("two breaks", x.fewest(0), 2);
+        asks("the second break by itself", x, 4, 1, 2);
+        x = six(4);
+        for (int d = 0; d < 2; d++) x.read(d, 4, 3);
+        for (int d = 4; d < 6; d++) x.read(d, 4, 0);
+        asks("the first break by itself", x, 0, 1, 2);
+        x = six(4);
+        for (int d = 0; d < 2; d++) {
+            x.read(d, 1, 0);
+            x.read(d, 2, 1);
+            x.read(d, 4, 3);
+        }
+        for (int d = 2; d < 4; d++) x.read(d, 4, 2);
+        due("a break ahead of pulse 1, and one behind it", x.fewest(0), 2);
+        brokenRow("ahead", x, 0, 2, 0, 0, 0);
+        brokenRow("behind", x, 1, 1, 1, 1, 1);
+        asks("the one behind it", x, 2, 2, 2);
+        x = Edge.plain(0, 0, 0);
+        x.watch(5);
+        for (int d = 0; d < 3; d++) {
+            x.read(d, 2, 1);
+            x.read(d, 3, 2);
+            x.read(d, 5, 3);
+        }
+        due("two breaks of one branch", x.fewest(0), 2);
+        brokenRow("one of the first two, one of the last two", x, 0, 1, 1, 0, 1, 1);
+        asks("the first of them", x, 0, 1, 2);
+        x.read(0, 1, 1);
+        asks("then the second", x, 0, 4, 2);
+    }
+
+    private static void questionOfWorn() {
+        says("would show most unlike HANDS");
+        HallClock x = Edge.plain(0, 0, 0);
+        x.worn(0, 1, 0);
+        x.worn(2, 0, 1);
+        x.watch(3);
+        x.read(1, 3, 2);
+        x.read(2, 3, 4);
+        due("a break", x.fewest(0), 1);
+        asks("the first one always skips, so it shows nothing", x, 1, 1, 2);
+        x = Edge.plain(0, 0);
+        x.worn(0, 2, 0);
+        x.watch(4);
+        x.read(0, 4, 1);
+        x.read(1, 4, 2);
+        // A break of two of four: behind pulse 2 the plain one shows 0, 1 or 2, the other one 0 or 1.
+        due("one break", x.fewest(0), 1);
+        asks("the one that doesn't skip shows more", x, 1, 2, 3);
+        x = Edge.plain(0, 0);
+        x.worn(1, 2, 0);
+        x.watch(4);
+        x.read(1, 4, 1);
+        x.read(0, 4, 2);
+        asks("likewise", x, 0, 2, 3);
+    }
+
+    private static void questionOfTurned() {
+        says("would show most unlike HANDS");
+        HallClock x = watched(Edge.turned(0, 0), 4);
+        x.read(0, 4, 3);
+        x.read(1, 4, 3);
+        // A break of the last pulse alone: with an earlier one the next pulse has its last sign.
+        due("one break", x.fewest(0), 1);
+        brokenRow("the last", x, 0, 0, 0, 0, 2);
+        due("no question", x.question(0, 0), NONE);
+        x.watch(4);
+        x.read(0, 4, 2);
+        x.read(1, 4, 2);
+        // Breaks of 1, of 2, of 3, of 1 .. 2, of 2 .. 3, of 3 .. 4: behind 1: 0 or 1; behind 2: 0, 1 or 2; behind 3: 1 or 2.
+        brokenRow("two are lost", x, 0, 1, 1, 1, 1);
+        asks("behind the second", x, 0, 2, 3);
+    }
+
+    /** What an earlier watch told must not be left in a later one. */
+    private static void watchAnew() {
+        says("WATCH of N PULSES; all READ is gone");
+        HallClock x = six(4);
+        x.read(0, 4, 2);
+        x.read(1, 4, 2);
+        brokenRow("two of four", x, 0, 1, 1, 1, 1);
+        asks("two of four", x, 0, 2, 3);
+        x.watch(4);
+        x.read(0, 4, 3);
+        x.read(0, 3, 3);
+        brokenRow("the last, or a miss", x, 0, 0, 0, 0, 1);
+        x.watch(4);
+        x.read(2, 1, 0);
+        x.read(3, 1, 0);
+        brokenRow("another branch, or the one ahead of it", x, 0, 1, 1, 1, 1);
+        x.watch(4);
+        x.read(0, 4, 4);
+        x.read(1, 4, 4);
+        brokenRow("none", x, 0, 0, 0, 0, 0);
+        due("no question", x.question(0, 0), NONE);
     }
 
     private static void watch() {
