@@ -211,6 +211,11 @@ public final class EdgesImageTest {
         x.by(0);
         due("the new one at the same minute", x.rings(1, 7), 0);
         due("the new one at the same minute", x.rings(2, 7), 1);
+        x.back();
+        Edge.type(x, "ring 2 when 1=2;");
+        x.strip();
+        x.by(0);
+        due("one of the same form that is never so, at the same minute", x.rings(2, 7), 0);
     }
 
     private static void tapeIsNotOfIt() {

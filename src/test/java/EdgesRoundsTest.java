@@ -274,6 +274,8 @@ public final class EdgesRoundsTest {
     private static void handsOfAllRoundsAtOnce() {
         says("in a ROUND up to H (0 .. 15) of the DIALS can be HELD");
         plan("3 is held in the third", behind(3, 4, 5, 6), 1, 1, 2, 3);
+        plan("2 is held in the third, whose hands are all in use then, and 3 in another one", behind(2, 3, 4), 1, 1, 1, 2);
+        plan("the same the other way round", behind(4, 3, 2), 1, 1, 1, 2);
         noPlan("of two that are 3 behind one would be held in the first and the second too", behind(3, 3, 4, 5, 6), 1);
         plan("with two hands", behind(3, 3, 4, 5, 6), 2, 1, 2, 3);
         plan("two of them", behind(3, 3, 6), 1, 3, 3);

@@ -630,6 +630,13 @@ public final class EdgesWatchTest {
         x.read(1, 4, 1);
         x.read(0, 4, 2);
         asks("likewise", x, 0, 2, 3);
+        x = Edge.plain(0, 0);
+        x.worn(0, 3, 0);
+        x.watch(3);
+        x.read(1, 2, 1);
+        // A miss, or a break of 1, of 2, of 2 .. 3: behind pulse 3 the plain one shows 1, 2 or 3, the other one 1 or 2.
+        due("one mishap", x.fewest(0), 1);
+        asks("the third that came would skip", x, 1, 3, 3);
     }
 
     private static void questionOfTurned() {
@@ -647,6 +654,12 @@ public final class EdgesWatchTest {
         // Breaks of 1, of 2, of 3, of 1 .. 2, of 2 .. 3, of 3 .. 4: behind 1: 0 or 1; behind 2: 0, 1 or 2; behind 3: 1 or 2.
         brokenRow("two are lost", x, 0, 1, 1, 1, 1);
         asks("behind the second", x, 0, 2, 3);
+        x = watched(Edge.turned(0), 4);
+        x.read(0, 2, 1);
+        x.read(0, 4, 2);
+        // A miss of 2, or a break of 2, of 2 .. 3: with none behind 2 it would show 2, by both breaks 1.
+        brokenRow("the second is lost, and what goes with it", x, 0, 0, 1, 1, 0);
+        asks("behind the second, where they part", x, 0, 2, 2);
     }
 
     /** What an earlier watch told must not be left in a later one. */

@@ -22,7 +22,7 @@ public final class FaceTest {
         "int next(int,int)", "int often(int,int)", "int together(int,int,int)", "int late(int,int)", "int lesson(int,int)",
         "int image()", "int back()", "int about(int)"};
     private static final String[] RULED_OUT = {
-        "\\bthrow\\b", "\\btry\\b", "\\bcatch\\b", "\\bsynchronized\\b", "\\bassert\\b", "->", "::", "\\bExact\\b",
+        "\\bthrow\\b", "\\btry\\b", "\\bcatch\\b", "\\bsynchronized\\b", "\\bassert\\b", "->", "::", "Exact\\b",
         "\\bprotected\\b", "\\bObject\\b", "\\bThread\\b", "\\bfinally\\b", "\\bdouble\\b", "\\bfloat\\b"};
     private static int bad = 0;
 
